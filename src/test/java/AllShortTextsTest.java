@@ -9,17 +9,20 @@ public final class AllShortTextsTest {
     private static final int LENGTH = 8;
 
     public static void main(String[] args) {
-        String[] starts = {"", "499,999,", "500,000,", "4,999,999,99"};
-        for (String start : starts) {
-            int count = 1;
-            for (int i = 0; i < LENGTH; i++) {
-                count *= OFFERED.length;
-            }
-            for (int number = 0; number < count; number++) {
-                offer(start, number);
-            }
+        for (String start : new String[] {"", "499,999,", "500,000,", "4,999,999,99"}) {
+            Check.test("Every short text after \"" + start + "\"", () -> offerAll(start));
         }
         Check.end();
+    }
+
+    private static void offerAll(String start) {
+        int count = 1;
+        for (int i = 0; i < LENGTH; i++) {
+            count *= OFFERED.length;
+        }
+        for (int number = 0; number < count; number++) {
+            offer(start, number);
+        }
     }
 
     private static void offer(String start, int number) {
@@ -35,7 +38,8 @@ public final class AllShortTextsTest {
                 text += c;
             }
         }
-        Check.state(text, reader, isWhole(text), dueValue(text));
+        Check.complete(text, reader, isWhole(text));
+        Check.value(text, reader, dueValue(text));
     }
 
     private static int dueAnswer(String text, char c) {

@@ -1,73 +1,90 @@
-/** Promise 3: whether the text is whole. */
+/** Promise 3: whether the text is whole. Each test is named by the sentence that it would see broken. */
 public final class Promise3CompleteTest {
     public static void main(String[] args) {
-        documentTable();
-        firstGroupOfAnyLength();
-        wholeWithValueZeroOrAtLimit();
-        refusalsDoNotChangeIt();
-        askingChangesNothing();
+        Check.test("If comma is true, complete() answers true exactly when group == 3",
+            Promise3CompleteTest::afterAComma);
+        Check.test("If comma is false, complete() answers true exactly when group >= 1",
+            Promise3CompleteTest::beforeAnyComma);
+        Check.test("The table of accepted inputs", Promise3CompleteTest::table);
+        Check.test("complete() changes nothing", Promise3CompleteTest::changesNothing);
+        Check.test("complete() never throws", Promise3CompleteTest::inEveryState);
+        Check.test("complete(), called any number of times, gives the same answer",
+            Promise3CompleteTest::askedAgain);
+        Check.test("complete() gives the same answer until the next accepted feed, refused ones between",
+            Promise3CompleteTest::refusedFeedsBetween);
         Check.end();
     }
 
-    private static void documentTable() {
-        Check.after("", false, 0L);
-        Check.after("7", true, 7L);
-        Check.after("12", true, 12L);
-        Check.after("123", true, 123L);
-        Check.after("1,", false, 1L);
-        Check.after("1,23", false, 123L);
-        Check.after("1,234", true, 1234L);
-        Check.after("1,234,", false, 1234L);
-        Check.after("1,234,567", true, 1234567L);
-    }
-
-    private static void firstGroupOfAnyLength() {
-        String[] starts = {"8", "88", "888"};
+    private static void afterAComma() {
+        String[] starts = {"8,", "88,", "888,", "0,", "000,", "1,234,", "9,999,999,999,"};
         for (String start : starts) {
-            Check.same(start, Check.accepted(start).complete(), true);
-            Check.same(start + ",", Check.accepted(start + ",").complete(), false);
-            Check.same(start + ",1", Check.accepted(start + ",1").complete(), false);
-            Check.same(start + ",12", Check.accepted(start + ",12").complete(), false);
-            Check.same(start + ",123", Check.accepted(start + ",123").complete(), true);
+            Check.completeAfter(start, false);
+            Check.completeAfter(start + "1", false);
+            Check.completeAfter(start + "12", false);
+            Check.completeAfter(start + "123", true);
+            Check.completeAfter(start + "0", false);
+            Check.completeAfter(start + "00", false);
+            Check.completeAfter(start + "000", true);
         }
     }
 
-    private static void wholeWithValueZeroOrAtLimit() {
-        Check.after("0", true, 0L);
-        Check.after("000", true, 0L);
-        Check.after("0,", false, 0L);
-        Check.after("0,00", false, 0L);
-        Check.after("0,000", true, 0L);
-        Check.after("9,999,999,999", true, Check.LIMIT);
-        Check.after("9,999,999,999,", false, Check.LIMIT);
-        Check.after("9,999,999,999,9", false, Check.LIMIT);
+    private static void beforeAnyComma() {
+        Check.completeAfter("", false);
+        for (char c = '0'; c <= '9'; c++) {
+            Check.completeAfter("" + c, true);
+            Check.completeAfter("" + c + c, true);
+            Check.completeAfter("" + c + c + c, true);
+        }
     }
 
-    private static void refusalsDoNotChangeIt() {
-        GroupedReader reader = new GroupedReader();
-        Check.feed("fresh", reader, ',', 2);
-        Check.feed("fresh", reader, 'x', 3);
-        Check.state("fresh, two refusals", reader, false, 0L);
-        reader = Check.accepted("123");
-        Check.feed("after \"123\"", reader, '4', 1);
-        Check.state("after \"123\" and a refusal", reader, true, 123L);
-        reader = Check.accepted("1,23");
-        Check.feed("after \"1,23\"", reader, ',', 2);
-        Check.state("after \"1,23\" and a refusal", reader, false, 123L);
+    private static void table() {
+        Check.completeAfter("", false);
+        Check.completeAfter("7", true);
+        Check.completeAfter("12", true);
+        Check.completeAfter("123", true);
+        Check.completeAfter("1,", false);
+        Check.completeAfter("1,23", false);
+        Check.completeAfter("1,234", true);
+        Check.completeAfter("1,234,", false);
+        Check.completeAfter("1,234,567", true);
     }
 
-    private static void askingChangesNothing() {
-        GroupedReader reader = new GroupedReader();
-        String text = "12,345,678";
-        for (int i = 0; i < text.length(); i++) {
-            boolean first = reader.complete();
-            long value = reader.value();
-            for (int again = 0; again < 5; again++) {
-                Check.same("complete() asked again at " + i, reader.complete(), first);
+    private static void changesNothing() {
+        for (State state : State.ALL) {
+            GroupedReader reader = state.reader();
+            reader.complete();
+            state.look("after \"" + state.text() + "\" and complete()", reader);
+            reader = state.reader();
+            reader.complete();
+            Check.feed("after \"" + state.text() + "\" and complete()", reader, ',', state.answer(','));
+        }
+    }
+
+    private static void inEveryState() {
+        for (State state : State.ALL) {
+            Check.completeAfter(state.text(), state.whole());
+        }
+    }
+
+    private static void askedAgain() {
+        for (State state : State.ALL) {
+            GroupedReader reader = state.reader();
+            for (int i = 0; i < 10000; i++) {
+                Check.complete("after \"" + state.text() + "\", asked again", reader, state.whole());
             }
-            Check.same("value() after complete() at " + i, reader.value(), value);
-            Check.feed("after complete() at " + i, reader, text.charAt(i), 0);
         }
-        Check.state("after \"" + text + "\"", reader, true, 12345678L);
+    }
+
+    private static void refusedFeedsBetween() {
+        for (State state : State.ALL) {
+            GroupedReader reader = state.reader();
+            for (char c : new char[] {'0', '9', ',', '.', 'x', '\u0663'}) {
+                if (state.answer(c) != 0) {
+                    String what = "after \"" + state.text() + "\" and a refused " + Check.show(c);
+                    Check.feed(what, reader, c, state.answer(c));
+                    Check.complete(what, reader, state.whole());
+                }
+            }
+        }
     }
 }

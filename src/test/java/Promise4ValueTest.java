@@ -1,95 +1,153 @@
-/** Promise 4: the value read so far. */
+/** Promise 4: the value read so far. Each test is named by the sentence that it would see broken. */
 public final class Promise4ValueTest {
     public static void main(String[] args) {
-        answeredWholeOrNot();
-        passesIntRange();
-        edgesOfTheLimit();
-        limitIsReachedWithinAGroup();
-        limitIsKept();
-        refusedDigitsDoNotCount();
-        askingChangesNothing();
+        Check.test("value() is always at least 0 and at most 5000000000L", Promise4ValueTest::alwaysInRange);
+        Check.test("Commas do not affect value()", Promise4ValueTest::commasDoNotCount);
+        Check.test("value() equals the number formed by all accepted digits in order",
+            Promise4ValueTest::numberOfAllDigits);
+        Check.test("value() is 5000000000L if that number would exceed 5000000000L",
+            Promise4ValueTest::numberAboveTheLimit);
+        Check.test("The number is formed by accepted digits: refused ones do not count",
+            Promise4ValueTest::refusedDigitsDoNotCount);
+        Check.test("value() is answered whether or not the text is WHOLE", Promise4ValueTest::wholeOrNot);
+        Check.test("value() changes nothing", Promise4ValueTest::changesNothing);
+        Check.test("value() never throws", Promise4ValueTest::inEveryState);
+        Check.test("value(), called any number of times, gives the same answer", Promise4ValueTest::askedAgain);
+        Check.test("value() gives the same answer until the next accepted feed, refused ones between",
+            Promise4ValueTest::refusedFeedsBetween);
         Check.end();
     }
 
-    private static void answeredWholeOrNot() {
-        Check.after("1,2", false, 12L);
-        Check.after("1,23", false, 123L);
-        Check.after("12,", false, 12L);
-        Check.after("987,654,321", true, 987654321L);
-    }
-
-    private static void passesIntRange() {
-        Check.after("32,768", true, 32768L);
-        Check.after("65,536", true, 65536L);
-        Check.after("2,147,483,647", true, 2147483647L);
-        Check.after("2,147,483,648", true, 2147483648L);
-        Check.after("4,294,967,296", true, 4294967296L);
-    }
-
-    private static void edgesOfTheLimit() {
-        Check.after("4,999,999,998", true, 4999999998L);
-        Check.after("4,999,999,999", true, 4999999999L);
-        Check.after("5,000,000,000", true, 5000000000L);
-        Check.after("5,000,000,001", true, Check.LIMIT);
-        Check.after("5,000,000,009", true, Check.LIMIT);
-        Check.after("5,000,000,010", true, Check.LIMIT);
-        Check.after("9,999,999,999", true, Check.LIMIT);
-        Check.after("0,004,999,999,999", true, 4999999999L);
-        Check.after("0,005,000,000,000", true, 5000000000L);
-        Check.after("005,000,000,001", true, Check.LIMIT);
-    }
-
-    private static void limitIsReachedWithinAGroup() {
-        Check.after("500,000,000", true, 500000000L);
-        Check.after("500,000,000,", false, 500000000L);
-        Check.after("500,000,000,0", false, 5000000000L);
-        Check.after("500,000,000,1", false, Check.LIMIT);
-        Check.after("499,999,999,9", false, 4999999999L);
-        Check.after("499,999,999,99", false, Check.LIMIT);
-        Check.after("50,000,000,00", false, 5000000000L);
-        Check.after("50,000,000,000", true, Check.LIMIT);
-        Check.after("999,999,999", true, 999999999L);
-        Check.after("999,999,999,9", false, Check.LIMIT);
-    }
-
-    private static void limitIsKept() {
-        String[] starts = {"5,000,000,000", "9,999,999,999"};
-        for (String start : starts) {
-            for (char c = '0'; c <= '9'; c++) {
-                GroupedReader reader = Check.accepted(start);
-                for (int i = 0; i < 100; i++) {
-                    Check.feed("at the limit", reader, ',', 0);
-                    Check.same("value() at the limit after ','", reader.value(), Check.LIMIT);
-                    for (int digit = 0; digit < 3; digit++) {
-                        Check.feed("at the limit", reader, c, 0);
-                        Check.same("value() at the limit after " + c, reader.value(), Check.LIMIT);
-                    }
+    private static void alwaysInRange() {
+        for (char c = '0'; c <= '9'; c++) {
+            GroupedReader reader = Check.accepted("" + c);
+            for (int i = 0; i < 1000; i++) {
+                lookAtRange(reader);
+                Check.feed("group " + i, reader, ',', 0);
+                for (int digit = 0; digit < 3; digit++) {
+                    lookAtRange(reader);
+                    Check.feed("group " + i, reader, c, 0);
                 }
             }
+            lookAtRange(reader);
         }
+    }
+
+    private static void lookAtRange(GroupedReader reader) {
+        long value = reader.value();
+        Check.same("value() >= 0 with " + value, value >= 0L, true);
+        Check.same("value() <= limit with " + value, value <= Check.LIMIT, true);
+    }
+
+    private static void commasDoNotCount() {
+        Check.valueAfter("0,", 0L);
+        Check.valueAfter("7,", 7L);
+        Check.valueAfter("12,", 12L);
+        Check.valueAfter("123,", 123L);
+        Check.valueAfter("1,234,567,", 1234567L);
+        Check.valueAfter("4,999,999,999,", 4999999999L);
+        Check.valueAfter("5,000,000,000,", Check.LIMIT);
+        // The same digits with the commas elsewhere.
+        Check.valueAfter("1,234", 1234L);
+        Check.valueAfter("12,34", 1234L);
+        Check.valueAfter("123,4", 1234L);
+    }
+
+    private static void numberOfAllDigits() {
+        Check.valueAfter("0", 0L);
+        Check.valueAfter("9", 9L);
+        Check.valueAfter("10", 10L);
+        Check.valueAfter("321", 321L);
+        Check.valueAfter("32,768", 32768L);
+        Check.valueAfter("65,536", 65536L);
+        Check.valueAfter("987,654,321", 987654321L);
+        Check.valueAfter("999,999,999", 999999999L);
+        Check.valueAfter("1,000,000,000", 1000000000L);
+        Check.valueAfter("2,147,483,647", 2147483647L);
+        Check.valueAfter("2,147,483,648", 2147483648L);
+        Check.valueAfter("4,294,967,295", 4294967295L);
+        Check.valueAfter("4,294,967,296", 4294967296L);
+        Check.valueAfter("4,999,999,998", 4999999998L);
+        Check.valueAfter("4,999,999,999", 4999999999L);
+        Check.valueAfter("5,000,000,000", 5000000000L);
+        Check.valueAfter("0,004,999,999,999", 4999999999L);
+        Check.valueAfter("000,005,000,000,000", 5000000000L);
+    }
+
+    private static void numberAboveTheLimit() {
+        Check.valueAfter("5,000,000,001", Check.LIMIT);
+        Check.valueAfter("5,000,000,009", Check.LIMIT);
+        Check.valueAfter("5,000,000,010", Check.LIMIT);
+        Check.valueAfter("5,001,000,000", Check.LIMIT);
+        Check.valueAfter("6,000,000,000", Check.LIMIT);
+        Check.valueAfter("9,999,999,999", Check.LIMIT);
+        Check.valueAfter("10,000,000,00", 1000000000L);
+        Check.valueAfter("10,000,000,000", Check.LIMIT);
+        Check.valueAfter("499,999,999,9", 4999999999L);
+        Check.valueAfter("499,999,999,99", Check.LIMIT);
+        Check.valueAfter("999,999,999,9", Check.LIMIT);
+        Check.valueAfter("005,000,000,001", Check.LIMIT);
     }
 
     private static void refusedDigitsDoNotCount() {
         GroupedReader reader = Check.accepted("123");
-        Check.feed("after \"123\"", reader, '4', 1);
-        Check.same("value() after a refused digit", reader.value(), 123L);
-        Check.feed("after \"123\"", reader, ',', 0);
-        Check.feed("after \"123,\"", reader, '5', 0);
-        Check.same("value() after \"123,5\"", reader.value(), 1235L);
+        Check.feedAll("after \"123\"", reader, "0456789", 1);
+        Check.value("after \"123\" and refused digits", reader, 123L);
+        Check.feedAll("after \"123\" and refused digits", reader, ",5", 0);
+        Check.value("after \"123\", refused digits and \",5\"", reader, 1235L);
+        reader = Check.accepted("500,000,000");
+        Check.feedAll("after \"500,000,000\"", reader, "0123456789", 1);
+        Check.value("after \"500,000,000\" and refused digits", reader, 500000000L);
     }
 
-    private static void askingChangesNothing() {
-        GroupedReader reader = new GroupedReader();
-        String text = "4,999,999,999,9";
-        for (int i = 0; i < text.length(); i++) {
-            boolean complete = reader.complete();
-            long first = reader.value();
-            for (int again = 0; again < 5; again++) {
-                Check.same("value() asked again at " + i, reader.value(), first);
-            }
-            Check.same("complete() after value() at " + i, reader.complete(), complete);
-            Check.feed("after value() at " + i, reader, text.charAt(i), 0);
+    private static void wholeOrNot() {
+        Check.valueAfter("", 0L);
+        Check.valueAfter("1", 1L);
+        Check.valueAfter("1,", 1L);
+        Check.valueAfter("1,2", 12L);
+        Check.valueAfter("1,23", 123L);
+        Check.valueAfter("1,234", 1234L);
+        Check.valueAfter("1,234,", 1234L);
+        Check.valueAfter("1,234,5", 12345L);
+        Check.valueAfter("9,999,999,999,9", Check.LIMIT);
+    }
+
+    private static void changesNothing() {
+        for (State state : State.ALL) {
+            GroupedReader reader = state.reader();
+            reader.value();
+            state.look("after \"" + state.text() + "\" and value()", reader);
+            reader = state.reader();
+            reader.value();
+            Check.feed("after \"" + state.text() + "\" and value()", reader, ',', state.answer(','));
         }
-        Check.state("after \"" + text + "\"", reader, false, Check.LIMIT);
+    }
+
+    private static void inEveryState() {
+        for (State state : State.ALL) {
+            Check.valueAfter(state.text(), state.value());
+        }
+    }
+
+    private static void askedAgain() {
+        for (State state : State.ALL) {
+            GroupedReader reader = state.reader();
+            for (int i = 0; i < 10000; i++) {
+                Check.value("after \"" + state.text() + "\", asked again", reader, state.value());
+            }
+        }
+    }
+
+    private static void refusedFeedsBetween() {
+        for (State state : State.ALL) {
+            GroupedReader reader = state.reader();
+            for (char c : new char[] {'0', '9', ',', '.', 'x', '\u0663'}) {
+                if (state.answer(c) != 0) {
+                    String what = "after \"" + state.text() + "\" and a refused " + Check.show(c);
+                    Check.feed(what, reader, c, state.answer(c));
+                    Check.value(what, reader, state.value());
+                }
+            }
+        }
     }
 }
